@@ -517,9 +517,6 @@ public final class SwitchRules {
         private final Code code = new Code();
 
         void clear() {
-            there = false;
-            isValue = false;
-            sort = NUMBERS;
             constants = 0;
             arms = 0;
             labels = 0;
@@ -1054,7 +1051,7 @@ public final class SwitchRules {
         /** The last brace and the end behind it. */
         void end() {
             if (kind() == CLOSE && unit.isValue) {
-                if (unit.arms > 0 && unit.hasOldArms && scope.isReached()) {
+                if (unit.hasOldArms && scope.isReached()) {
                     fail(FALLEN_OFF, at);
                 } else if (!unit.isExhaustive()) {
                     fail(NOT_EXHAUSTIVE, at);

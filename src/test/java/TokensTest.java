@@ -61,6 +61,7 @@ public final class TokensTest {
         due.faults("switch number^", 2);
         due.faults("switch number {^", 2);
         due.faults("^number {}", 2);
+        due.faults("^}", 2);
         due.faults("switch ^value {}", 2);
         due.faults("switch ^5 {}", 2);
         due.faults("switch number ^}", 2);
@@ -85,6 +86,9 @@ public final class TokensTest {
         due.faults("switch number { case 1 ^2: }", 2);
         due.faults("switch number { case 1, ^: }", 2);
         due.faults("switch number { case 1^; }", 2);
+        due.faults("switch number { case 1 ^case 2: }", 2);
+        due.faults("switch number { case 1 ^}", 2);
+        due.faults("switch number { default ^}", 2);
         due.faults("switch number { case -^: }", 2);
         due.faults("switch number { case -^a: }", 2);
         due.faults("switch text { case -^\"a\": }", 2);
@@ -139,6 +143,7 @@ public final class TokensTest {
         due.faults("switch number { case 1: let a = ^-5; }", 2);
         due.faults("switch number { case 1: let a = ^b; }", 2);
         due.faults("switch number { case 1: let ^5; }", 2);
+        due.faults("switch number { case 1: let ^; }", 2);
         due.faults("switch number { case 1: let a; a ^5; }", 2);
         due.faults("switch number { case 1: let a; a = ^-5; }", 2);
         due.faults("switch number { case 1: add ^a; }", 2);
