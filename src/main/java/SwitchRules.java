@@ -836,12 +836,13 @@ public final class SwitchRules {
             }
         }
 
-        /** A label is judged when it is whole, at its first token. */
+        /** A label's own faults stand at its first token. */
         private void oneLabel() {
             int first = at;
             boolean isMinus = kind() == MINUS;
             if (isMinus) {
                 at++;
+                judgeMinus(first);
             }
             int kind = kind();
             if (kind != NUMBER && (isMinus || (kind != TEXT && kind != NAME))) {
@@ -864,6 +865,18 @@ public final class SwitchRules {
             }
             unit.addLabel(sign);
             at++;
+        }
+
+        /**
+         * Only numbers begin with a minus: where they are no labels, it is wrong before the token behind it.
+         * A label too much is so with any token behind it, but a number may make the lesser fault, a label twice.
+         */
+        private void judgeMinus(int minus) {
+            if (unit.sort != NUMBERS) {
+                fail(WRONG_SORT, minus);
+            } else if (unit.labels >= LABELS && kind() != NUMBER) {
+                fail(TOO_MUCH, minus);
+            }
         }
 
         /** What stands behind an arrow. Such an arm has no names but those of its block. */

@@ -5,6 +5,7 @@ public final class FaultsTest {
         twice(due);
         mixed(due);
         sorts(due);
+        sortsOfMinus(due);
         leaves(due);
         reached(due);
         fallenOff(due);
@@ -53,6 +54,25 @@ public final class FaultsTest {
         due.faults("switch ^a {}", 5);
         due.faults("enum a { b } switch ^b {}", 5);
         due.reads("enum a { b } enum c { b, d } switch c { case d, b: }", 1);
+    }
+
+    /** A label that begins with - is none of texts or constants, whatever is behind the -. */
+    private static void sortsOfMinus(Due due) {
+        String[] behind = { "a", "b", "1", "\"a\"", "\"\"", "-", "->", ":", ",", ";", "{", "}", "=", "case", "default",
+            "", " ", "@", "- @", "1234567890", "abcdefghi", "\"", "\"123456789\"", ">" };
+        for (String token : behind) {
+            due.faults("switch text{case^- " + token, 5);
+            due.faults("value text { case \"a\", ^- " + token + ": yield 1; }", 5);
+            due.faults("switch text { case \"a\" -> break; case ^-\t" + token + " -> break; }", 5);
+            due.faults("enum a { b, c } switch a { case ^- " + token + ": }", 5);
+            due.faults("enum a { b, c } value a { default: yield 1; case b, ^- " + token, 5);
+        }
+        due.faults("switch text{case^-a ", 5);
+        due.faults("switch text { case ^-\"a\": }", 5);
+        due.faults("enum a { b } switch a { case ^-b: }", 5);
+        due.faults("switch text { case ^->: }", 2);
+        due.faults("switch text { default^-: }", 2);
+        due.faults("switch text { case \"a\" ^-1: }", 2);
     }
 
     private static void leaves(Due due) {

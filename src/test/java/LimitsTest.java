@@ -30,6 +30,16 @@ public final class LimitsTest {
         due.faults("switch number { case " + all + ": case ^-32: }", 12);
         due.faults("switch number { case " + all + ", ^7: }", 3);
         due.faults("switch number { case " + all + ", ^\"a\": }", 5);
+        due.faults("switch number { case " + all + ", ^-0: }", 3);
+        due.faults("switch number { case " + all + ", ^- a: }", 12);
+        due.faults("switch number { case " + all + ", ^- 1234567890: }", 12);
+        due.faults("switch number { case " + all + ": case ^-", 12);
+        due.faults("switch number { case " + all + ", ^->: }", 2);
+        due.faults("switch number { case " + Due.numbered(31, "", "", ", ") + ", -^a: }", 2);
+        String texts = Due.numbered(32, "\"", "\"", ", ");
+        due.reads("switch text { case " + texts + ": }", 1);
+        due.faults("switch text { case " + texts + ", ^-a: }", 5);
+        due.faults("switch text { case " + texts + ", ^\"a\": }", 12);
     }
 
     private static void arms(Due due) {

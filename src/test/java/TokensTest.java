@@ -91,7 +91,9 @@ public final class TokensTest {
         due.faults("switch number { default ^}", 2);
         due.faults("switch number { case -^: }", 2);
         due.faults("switch number { case -^a: }", 2);
-        due.faults("switch text { case -^\"a\": }", 2);
+        due.faults("switch number { case -^\"a\": }", 2);
+        due.faults("switch number { case 1, - ^- 2: }", 2);
+        due.faults("switch number { case -^", 2);
         due.faults("switch number { case ^default: }", 2);
         due.faults("switch number { default ^1: }", 2);
         due.faults("switch number { default^, 1: }", 2);
