@@ -11,7 +11,7 @@ public final class AnyCallsTest {
     public static void main(String[] args) {
         Due due = new Due();
         AnyCallsTest any = new AnyCallsTest();
-        for (int i = 0; i < 3000; i++) {
+        for (int i = 0; i < 9000; i++) {
             any.useOne(due);
         }
         due.end();
@@ -28,7 +28,7 @@ public final class AnyCallsTest {
 
     private void useOne(Due due) {
         SwitchRules x = new SwitchRules();
-        for (int i = 0; i < 12; i++) {
+        for (int i = 0; i < 4; i++) {
             if (next(2) == 0) {
                 Due.type(x, parts());
             }

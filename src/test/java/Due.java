@@ -2,12 +2,23 @@
 final class Due {
     private int asked = 0;
     private int wrong = 0;
+    private String sentence = "";
+
+    /** The words of the document by which the next answers are due; they are told with a wrong one. */
+    void by(String words) {
+        sentence = words;
+    }
 
     void is(String call, long got, long want) {
+        same(call, Long.toString(got), Long.toString(want));
+    }
+
+    void same(String call, String got, String want) {
         asked++;
-        if (got != want) {
+        if (!got.equals(want)) {
             wrong++;
-            System.out.println(call + " answered " + got + ", due is " + want);
+            System.out.println(call + " answered " + got + ", due is " + want
+                + (sentence.isEmpty() ? "" : ", by \"" + sentence + "\""));
         }
     }
 
@@ -72,6 +83,28 @@ final class Due {
         }
         is("trace(" + trace.length + ") behind " + call, x.trace(trace.length), 0);
         is("trace(-1) behind " + call, x.trace(-1), 0);
+    }
+
+    /** All that a unit, its table and the latest run tell, in so few calls that the 512 of an object are not used up. */
+    static String answers(SwitchRules x) {
+        StringBuilder all = new StringBuilder();
+        all.append("place ").append(x.place()).append(", hash ").append(x.hash()).append(", told");
+        for (int what = 0; what < 8; what++) {
+            all.append(' ').append(x.told(what));
+        }
+        all.append(", labels");
+        for (int i = 0; i <= x.told(3); i++) {
+            all.append(' ').append(x.label(i, 0)).append('/').append(x.label(i, 1));
+        }
+        all.append(", table ").append(x.form()).append(' ').append(x.keys());
+        for (int i = 0; i <= x.keys(); i++) {
+            all.append(' ').append(x.key(i)).append('/').append(x.target(i)).append('/').append(x.alike(i));
+        }
+        all.append(", run ").append(x.value()).append(' ').append(x.traced());
+        for (int i = 0; i <= Math.max(0, x.traced()); i++) {
+            all.append(' ').append(x.trace(i));
+        }
+        return all.toString();
     }
 
     static String times(int n, String part) {

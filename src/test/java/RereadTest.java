@@ -26,9 +26,11 @@ public final class RereadTest {
                 compare(due, first + " ==> " + second, used, second);
             }
         }
-        SwitchRules x = new SwitchRules();
-        for (String text : TEXTS) {
-            compare(due, "all up to " + text, x, text);
+        for (int from = 0; from + 4 <= TEXTS.length; from++) {
+            SwitchRules x = new SwitchRules();
+            for (int i = from; i < from + 4; i++) {
+                compare(due, "text " + from + " up to " + TEXTS[i], x, TEXTS[i]);
+            }
         }
         manyStmts(due);
         due.end();
