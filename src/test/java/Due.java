@@ -1,5 +1,13 @@
 /** What the tests share: counting wrong answers, typing whole texts, and reading them. */
 final class Due {
+    /** Together they have all tokens and rules of the grammar, with a blank between any two tokens. */
+    static final String[] UNITS = {
+        "enum a { b , c } enum d { e } switch a { case b , c : { } let x ; let y = 1 ; if add 2 ; else { x = 3 ; use x ; } "
+            + "use y ; if if break ; else throw 4 ; default : add 5 ; }",
+        "enum a { b , c } value a { case b -> - 1 ; case c -> 2 ; default -> { if yield - 3 ; else throw 4 ; } }",
+        "switch text { case \"\" , \"a\" -> add 1 ; case \"b\" -> break ; default -> throw 2 ; }",
+        "value number { case - 1 , 2 : add 3 ; default : yield 4 ; }"};
+
     private int asked = 0;
     private int wrong = 0;
     private String sentence = "";

@@ -27,13 +27,7 @@ public final class EdgesOfGrammarTest {
 
     private static void endsEverywhere(Due due) {
         due.by("FAULTS (.. the text's length at its end): 2 it can't come there");
-        String[] units = {
-            "enum a { b , c } enum d { e } switch a { case b , c : { } let x ; let y = 1 ; if add 2 ; else { x = 3 ; use x ; } "
-                + "use y ; if if break ; else throw 4 ; default : add 5 ; }",
-            "enum a { b , c } value a { case b -> - 1 ; case c -> 2 ; default -> { if yield - 3 ; else throw 4 ; } }",
-            "switch text { case \"\" , \"a\" -> add 1 ; case \"b\" -> break ; default -> throw 2 ; }",
-            "value number { case - 1 , 2 : add 3 ; default : yield 4 ; }"};
-        for (String unit : units) {
+        for (String unit : Due.UNITS) {
             String before = "";
             for (String token : unit.split(" ")) {
                 due.faults(before + "^", 2);

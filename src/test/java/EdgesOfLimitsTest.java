@@ -1,6 +1,6 @@
 import java.util.Arrays;
 
-/** The edges of FAULT 12: each limit when it is full, when it is passed by one, and with a lesser fault at the same token. */
+/** The edges of FAULT 12: each limit full, passed by one, and with a lesser fault at the same token. */
 public final class EdgesOfLimitsTest {
     public static void main(String[] args) {
         Due due = new Due();
@@ -221,7 +221,8 @@ public final class EdgesOfLimitsTest {
         due.by("FAULTS: 12 too much: .. a NAME that is the 21st in SCOPE");
         String most = Due.numbered(20, "let a", ";", " ");
         due.reads("switch number { case 1: " + Due.numbered(19, "let a", ";", " ") + " let b = 1; use b; }", 1);
-        SwitchRules x = Due.unit("switch number { case 1: " + Due.numbered(20, "let a", " = 7;", " ") + " a19 = 8; use a19; use a0; }");
+        SwitchRules x = Due.unit("switch number { case 1: " + Due.numbered(20, "let a", " = 7;", " ")
+            + " a19 = 8; use a19; use a0; }");
         due.runs(x, 1, 0, 1, 0, 8, 7);
         due.faults("switch number { case 1: " + most + " let ^b; }", 12);
         due.faults("switch number { case 1: " + most + " let ^b = 1; }", 12);

@@ -62,7 +62,8 @@ public final class EdgesOfRunsTest {
 
     private static void onlyIfsComeTo(Due due) {
         due.by("each if that is come to takes the next one");
-        SwitchRules x = Due.unit("switch number { case 1: if if add 1; else if add 2; case 2: if add 3; else if add 4; default: if add 5; }");
+        SwitchRules x = Due.unit("switch number { case 1: if if add 1; else if add 2;"
+            + " case 2: if add 3; else if add 4; default: if add 5; }");
         due.runs(x, 1, 0b000, 1, 0);
         due.runs(x, 1, 0b101, 1, 0, 2);
         due.runs(x, 1, 0b1101, 1, 0, 2, 3);
@@ -111,7 +112,8 @@ public final class EdgesOfRunsTest {
     private static void elseItEnds(Due due) {
         due.by("else ends .. 1 .. without an arm (of a switch)");
         String[] units = {"switch number {}", "switch number { case 1: add 1; throw 2; }", "switch text {}",
-            "switch text { case \"a\" -> throw 1; }", "enum e { k, l } switch e {}", "enum e { k, l } switch e { case k -> throw 1; }"};
+            "switch text { case \"a\" -> throw 1; }", "enum e { k, l } switch e {}",
+            "enum e { k, l } switch e { case k -> throw 1; }"};
         for (String unit : units) {
             SwitchRules x = Due.unit(unit);
             due.runs(x, 5, -1, 1, 0);
@@ -140,9 +142,11 @@ public final class EdgesOfRunsTest {
 
     private static void usesOfAnySize(Due due) {
         due.by("use: what the NAME is");
-        SwitchRules x = Due.unit("switch number { default: let a = 0; use a; a = 999999999; use a; let b = 1; { a = 2; b = 3; } use a; use b; use b; }");
+        SwitchRules x = Due.unit("switch number { default: let a = 0; use a; a = 999999999; use a;"
+            + " let b = 1; { a = 2; b = 3; } use a; use b; use b; }");
         due.runs(x, 0, 0, 1, 0, 0, 999999999, 2, 3, 3);
-        SwitchRules y = Due.unit("switch number { case 1: let a = 5; use a; case 2: a = 6; use a; case 3: let b; if b = 7; else b = 8; use b; }");
+        SwitchRules y = Due.unit("switch number { case 1: let a = 5; use a; case 2: a = 6; use a;"
+            + " case 3: let b; if b = 7; else b = 8; use b; }");
         due.runs(y, 1, 1, 1, 0, 5, 6, 7);
         due.runs(y, 2, 0, 1, 0, 6, 8);
         due.runs(y, 3, 1, 1, 0, 7);
@@ -180,7 +184,8 @@ public final class EdgesOfRunsTest {
     private static void endsByAYield(Due due) {
         due.by("It ENDS: .. 2 by a yield (with a number)");
         SwitchRules x = Due.unit("value number { case 0 -> 0; case 1 -> -0; case 2 -> 999999999; case 3 -> -999999999;"
-            + " case 4 -> { yield 0; } case 5 -> { yield - 1; } default -> { if yield -999999999; else { yield 999999999; } } }");
+            + " case 4 -> { yield 0; } case 5 -> { yield - 1; }"
+            + " default -> { if yield -999999999; else { yield 999999999; } } }");
         int[] yields = {0, 0, 999999999, -999999999, 0, -1, 999999999};
         for (int v = 0; v < yields.length; v++) {
             due.runs(x, v, 0, 2, yields[v]);
@@ -233,7 +238,8 @@ public final class EdgesOfRunsTest {
 
     private static void selectorsOfNumbers(Due due) {
         due.by("Promise 7: The selector is v");
-        SwitchRules x = Due.unit("value number { case 999999999 -> 1; case -999999999 -> 2; case 0 -> 3; case -1 -> 4; case 1 -> 5; default -> 6; }");
+        SwitchRules x = Due.unit("value number { case 999999999 -> 1; case -999999999 -> 2; case 0 -> 3;"
+            + " case -1 -> 4; case 1 -> 5; default -> 6; }");
         int[] selectors = {999999999, -999999999, 0, -1, 1, 1000000000, -1000000000, 999999998, -999999998,
             Integer.MAX_VALUE, Integer.MIN_VALUE, 2, -2};
         int[] yields = {1, 2, 3, 4, 5, 6, 6, 6, 6, 6, 6, 6, 6};
@@ -261,7 +267,8 @@ public final class EdgesOfRunsTest {
 
     private static void placesBelowZero(Due due) {
         due.by("Promise 7: -2 a place below 0");
-        String[] units = {"enum e { k, l } value e { case k, l: add 7; yield 8; }", "enum e { k } switch e { default: add 7; throw 8; }",
+        String[] units = {"enum e { k, l } value e { case k, l: add 7; yield 8; }",
+            "enum e { k } switch e { default: add 7; throw 8; }",
             "enum e { k } switch e { case k: add 7; throw 8; }"};
         for (String unit : units) {
             SwitchRules x = Due.unit(unit);
@@ -301,10 +308,13 @@ public final class EdgesOfRunsTest {
     private static void textsThatAreNoLabels(Due due) {
         due.by("Promise 7: of texts it is THE TEXT (all of its octets: none is passed over, none is cut off)");
         String[] others = {" ", "a ", " a", "\"a\"", "\n", "abcdefgha", "aabcdefgh", "abcdefghabcdefgh", "bcdefgh", "A",
-            "\0", "\0a", "a\0", "\0\0\0\0\0\0\0\0", "\0\0\0\0\0\0\0a", "\0abcdefgh", "\u00ff\u00ff\u00ff\u00ff\u00ff\u00ff\u00ff\u00ff",
-            "\u00e1", "abcdefgi", Due.times(2992, "x") + "abcdefgh", "abcdefgh" + Due.times(2992, "\0"), Due.times(3000, "\0")};
+            "\0", "\0a", "a\0", "\0\0\0\0\0\0\0\0", "\0\0\0\0\0\0\0a", "\0abcdefgh",
+            "\u00ff\u00ff\u00ff\u00ff\u00ff\u00ff\u00ff\u00ff",
+            "\u00e1", "abcdefgi", Due.times(2992, "x") + "abcdefgh", "abcdefgh" + Due.times(2992, "\0"),
+            Due.times(3000, "\0")};
         for (String other : others) {
-            SwitchRules x = Due.unit("value text { case \"\" -> 1; case \"a\" -> 2; case \"abcdefgh\" -> 3; default -> 4; }");
+            SwitchRules x = Due.unit("value text { case \"\" -> 1; case \"a\" -> 2;"
+                + " case \"abcdefgh\" -> 3; default -> 4; }");
             Due.type(x, other);
             due.runs(x, 0, 0, 2, 4);
         }
@@ -312,7 +322,8 @@ public final class EdgesOfRunsTest {
 
     private static void textsByTheirSigns(Due due) {
         due.by("It begins at the arm with the selector's label (of texts with one HASH, too)");
-        SwitchRules x = Due.unit("value text { case \"Aa\" -> 1; case \"BB\" -> 2; case \"\" -> 3; case \"bmgkAEs\" -> 4; default -> 5; }");
+        SwitchRules x = Due.unit("value text { case \"Aa\" -> 1; case \"BB\" -> 2; case \"\" -> 3;"
+            + " case \"bmgkAEs\" -> 4; default -> 5; }");
         String[] texts = {"Aa", "BB", "", "bmgkAEs", "C#"};
         for (int i = 0; i < texts.length; i++) {
             Due.type(x, texts[i]);

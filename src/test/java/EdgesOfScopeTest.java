@@ -103,7 +103,8 @@ public final class EdgesOfScopeTest {
         due.by("A NAME is in SCOPE .. to the end of that");
         due.reads(old("{ let a; { { a = 1; } } use a; }"), 1);
         due.faults(old("{ let a; { { a = 1; } } use a; } use ^a;"), 7);
-        SwitchRules x = Due.unit(old("let a = 1; { let b = 2; { let c = 3; use c; } let d = 4; use d; use b; } let e = 5; use a; use e;"));
+        SwitchRules x = Due.unit(old("let a = 1; { let b = 2; { let c = 3; use c; } let d = 4; use d; use b; }"
+            + " let e = 5; use a; use e;"));
         due.runs(x, 1, 0, 1, 0, 3, 4, 2, 1, 5);
     }
 

@@ -225,7 +225,8 @@ public final class EdgesOfTablesTest {
         due.by("The TARGET of a KEY: .. of texts with one HASH that of the first label, in the order of THE TEXT");
         table(due, "switch text { case \"BB\": case \"Aa\": }", ints(2112), ints(0), ints(2));
         table(due, "switch text { case \"x\": case \"Aa\": case \"BB\": }", ints(120, 2112), ints(0, 1), ints(1, 2));
-        table(due, "switch text { default: case \"x\": case \"BB\", \"y\": case \"Aa\": }", ints(120, 121, 2112), ints(1, 2, 2), ints(1, 1, 2));
+        table(due, "switch text { default: case \"x\": case \"BB\", \"y\": case \"Aa\": }", ints(120, 121, 2112),
+            ints(1, 2, 2), ints(1, 1, 2));
         table(due, "switch text { case \"y\": case \"bmgkAEs\": case \"\": }", ints(0, 121), ints(1, 0), ints(2, 1));
     }
 
@@ -278,7 +279,8 @@ public final class EdgesOfTablesTest {
 
     private static void noneSuch(Due due) {
         due.by("Promise 14: 0 where there is none; Promises 15, 16: -1 (there is none such)");
-        String[] units = {numbers("7, 8, 9"), numbers(Due.numbered(32, "", "", ", ")), "switch text { case \"a\": }", "switch text {}"};
+        String[] units = {numbers("7, 8, 9"), numbers(Due.numbered(32, "", "", ", ")),
+            "switch text { case \"a\": }", "switch text {}"};
         for (String unit : units) {
             SwitchRules x = Due.unit(unit);
             for (int i : NO_KEYS) {

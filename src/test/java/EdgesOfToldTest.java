@@ -53,7 +53,8 @@ public final class EdgesOfToldTest {
         due.by("Promise 5: 3 labels");
         due.is("told(3) of none", Due.unit("switch number { default: }").told(3), 0);
         for (int n = 1; n <= 32; n++) {
-            due.is("told(3) of " + n, Due.unit("switch number { default: case " + Due.numbered(n, "", "", ", ") + ": }").told(3), n);
+            String labels = Due.numbered(n, "", "", ", ");
+            due.is("told(3) of " + n, Due.unit("switch number { default: case " + labels + ": }").told(3), n);
         }
         due.is("told(3) over arms", Due.unit("switch number { case 1, 2: case 3: default: case 4, 5, 6: }").told(3), 6);
     }
@@ -153,7 +154,8 @@ public final class EdgesOfToldTest {
             due.is("label(" + i + ", 0)", x.label(i, 0), arms[i]);
             due.is("label(" + i + ", 1)", x.label(i, 1), numbers[i]);
         }
-        SwitchRules y = Due.unit("switch number { " + Due.numbered(19, "case ", ": ", "") + "case " + Due.numbered(13, "-1", "", ", ") + ": }");
+        SwitchRules y = Due.unit("switch number { " + Due.numbered(19, "case ", ": ", "")
+            + "case " + Due.numbered(13, "-1", "", ", ") + ": }");
         due.is("label(18, 0)", y.label(18, 0), 18);
         due.is("label(19, 0)", y.label(19, 0), 19);
         due.is("label(31, 0)", y.label(31, 0), 19);
@@ -168,7 +170,8 @@ public final class EdgesOfToldTest {
         for (int i = 0; i < 4; i++) {
             due.is("label(" + i + ", 1) of numbers", x.label(i, 1), numbers[i]);
         }
-        SwitchRules y = Due.unit("enum d { k15 } enum e { " + Due.numbered(16, "k", "", ", ") + " } switch e { case k15, k0, k7: }");
+        SwitchRules y = Due.unit("enum d { k15 } enum e { " + Due.numbered(16, "k", "", ", ")
+            + " } switch e { case k15, k0, k7: }");
         int[] places = {15, 0, 7};
         for (int i = 0; i < 3; i++) {
             due.is("label(" + i + ", 1) of constants", y.label(i, 1), places[i]);
